@@ -2,38 +2,63 @@
 public final class PromiseTest {
     private static final int[] FAR = {Integer.MIN_VALUE, -1000000, -2, -1};
     private static final int[] BEYOND = {1000000, Integer.MAX_VALUE - 1, Integer.MAX_VALUE};
-    private static int wrong = 0;
+    private static final int PROMISES = 9;
+    private static final int[] ANSWERS = new int[PROMISES + 1];
+    private static final int[] WRONG = new int[PROMISES + 1];
+    private static int promise = 0;
 
     public static void main(String[] args) {
-        newObject();
-        addCountsUpTo48();
-        addTakesTheSixLowestBits();
-        addThatIsRefusedChangesNothing();
-        dropMovesTheOnesBehind();
-        dropOfNoSampleChangesNothing();
-        dropMakesRoom();
-        mistakesByDepth();
-        priceWeighsQuestions();
-        priceIsTakenAsTheNearest();
-        questionIsTheLeastFeature();
-        questionDependsOnDepthAndPrice();
-        questionWhenALeafIsCheaper();
-        leavesAreTheFewest();
-        leavesOfAFullTree();
-        mistakesByEachFeature();
-        doubtfulCountsBothSides();
-        askingChangesNothing();
-        objectsAreApart();
-        System.out.println(wrong == 0 ? "all answers are as due" : wrong + " answers are not as due");
-        if (wrong != 0) {
+        run(1, PromiseTest::newObject);
+        run(1, PromiseTest::objectsAreApart);
+        run(2, PromiseTest::addCountsUpTo48);
+        run(2, PromiseTest::addTakesTheSixLowestBits);
+        run(2, PromiseTest::addThatIsRefusedChangesNothing);
+        run(3, PromiseTest::dropMovesTheOnesBehind);
+        run(3, PromiseTest::featuresMoveToo);
+        run(3, PromiseTest::dropOfNoSampleChangesNothing);
+        run(3, PromiseTest::dropMakesRoom);
+        run(4, PromiseTest::mistakesByDepth);
+        run(5, PromiseTest::priceWeighsQuestions);
+        run(5, PromiseTest::priceIsTakenAsTheNearest);
+        run(6, PromiseTest::questionIsTheLeastFeature);
+        run(6, PromiseTest::questionDependsOnDepthAndPrice);
+        run(6, PromiseTest::questionWhenALeafIsCheaper);
+        run(7, PromiseTest::leavesAreTheFewest);
+        run(7, PromiseTest::leavesOfAFullTree);
+        run(8, PromiseTest::mistakesByEachFeature);
+        run(9, PromiseTest::doubtfulCountsBothSides);
+        for (int asked = 4; asked <= PROMISES; asked++) {
+            run(asked, PromiseTest::askingChangesNothing);
+        }
+        if (!allHold()) {
             System.exit(1);
         }
     }
 
+    private static void run(int number, Runnable test) {
+        promise = number;
+        try {
+            test.run();
+        } catch (RuntimeException thrown) {
+            WRONG[promise]++;
+            System.out.println("promise " + promise + ": a call threw " + thrown);
+        }
+    }
+
+    private static boolean allHold() {
+        boolean hold = true;
+        for (int number = 1; number <= PROMISES; number++) {
+            System.out.println("promise " + number + ": " + ANSWERS[number] + " answers, " + WRONG[number] + " not as due");
+            hold &= ANSWERS[number] > 0 && WRONG[number] == 0;
+        }
+        return hold;
+    }
+
     private static void due(String what, int got, int want) {
+        ANSWERS[promise]++;
         if (got != want) {
-            wrong++;
-            System.out.println(what + " answered " + got + ", due is " + want);
+            WRONG[promise]++;
+            System.out.println("promise " + promise + ": " + what + " answered " + got + ", due is " + want);
         }
     }
 
@@ -126,7 +151,6 @@ public final class PromiseTest {
                 }
             }
         }
-        featuresMoveToo();
     }
 
     private static void featuresMoveToo() {
@@ -355,17 +379,29 @@ public final class PromiseTest {
         due("first pair broken: doubtful", tree.doubtful(), 3);
     }
 
+    /** The promise's own method, asked three times, changes no answer, neither its own nor another. */
     private static void askingChangesNothing() {
         BestTree tree = steps();
         for (int i = 0; i < 3; i++) {
-            due("in turn: price", tree.price(3, 4), 8);
-            due("in turn: leaves", tree.leaves(3), 3);
-            due("in turn: mistakes", tree.mistakes(1), 4);
-            due("in turn: question", tree.question(1, 0), 5);
-            due("in turn: mistakesBy", tree.mistakesBy(1, 2), 16);
-            due("in turn: doubtful", tree.doubtful(), 0);
+            ask(tree, promise);
+        }
+        for (int other = 4; other <= PROMISES; other++) {
+            ask(tree, other);
+            ask(tree, promise);
         }
         due("in turn: add", tree.add(0, true), 45);
+        due("in turn: drop", tree.drop(44), 44);
+    }
+
+    private static void ask(BestTree tree, int number) {
+        switch (number) {
+            case 4: due("in turn: mistakes", tree.mistakes(1), 4); break;
+            case 5: due("in turn: price", tree.price(3, 4), 8); break;
+            case 6: due("in turn: question", tree.question(1, 0), 5); break;
+            case 7: due("in turn: leaves", tree.leaves(3), 3); break;
+            case 8: due("in turn: mistakesBy", tree.mistakesBy(1, 2), 16); break;
+            default: due("in turn: doubtful", tree.doubtful(), 0); break;
+        }
     }
 
     private static void objectsAreApart() {

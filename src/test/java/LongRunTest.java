@@ -1,15 +1,27 @@
 import java.util.ArrayList;
+import java.util.Arrays;
 import java.util.List;
 import java.util.Random;
+import java.util.Set;
+import java.util.TreeSet;
 
 /**
- * Long runs of calls against a plain second program that keeps a list and, for every depth and
- * number of leaves, tries all trees. The seed is fixed, so that each run of the test is the same.
+ * Runs of 512 calls on one object, all methods mixed, against a plain second program that keeps a
+ * list and, for every depth and number of leaves, tries all trees. The seed is fixed, so that each
+ * run of the test is the same.
  */
-public final class ReferenceTest {
+public final class LongRunTest {
     private static final int NONE = 1000;
     private static final int RUNS = 150;
     private static final int CALLS = 512;
+    private static final int[] FAR = {
+        Integer.MIN_VALUE, Integer.MIN_VALUE + 1, -1000, -64, 64, 1000, Integer.MAX_VALUE - 1, Integer.MAX_VALUE,
+    };
+    /** What must have come about in some run, or the runs would pass over it unseen. */
+    private static final List<String> TO_BE_SEEN = List.of(
+            "add", "add refused", "drop", "drop refused", "drop of the last one", "mistakes", "price",
+            "question", "leaves", "mistakesBy", "mistakesBy refused", "doubtful");
+    private static final Set<String> SEEN = new TreeSet<>();
     private static int wrong = 0;
 
     private static final class Sample {
@@ -31,7 +43,13 @@ public final class ReferenceTest {
         for (int run = 0; run < RUNS && wrong == 0; run++) {
             oneRun(run, random);
         }
-        System.out.println(wrong == 0 ? "all answers are as due" : wrong + " answers are not as due");
+        for (String kind : TO_BE_SEEN) {
+            if (wrong == 0 && !SEEN.contains(kind)) {
+                wrong++;
+                System.out.println("no run had this: " + kind);
+            }
+        }
+        System.out.println(RUNS + " runs of " + CALLS + " calls, " + wrong + " answers not as due");
         if (wrong != 0) {
             System.exit(1);
         }
@@ -48,16 +66,20 @@ public final class ReferenceTest {
             String where = "run " + run + ", call " + call + ": ";
             int kind = random.nextInt(100);
             if (kind < dropsIn100) {
-                int number = random.nextInt(samples.size() + 3) - 1;
-                due(where + "drop " + number, tree.drop(number), drop(samples, number));
+                int number = orFar(random, random.nextInt(samples.size() + 3) - 1);
+                due(where, "drop", "(" + number + ")", tree.drop(number), drop(samples, number));
             } else if (kind < 50) {
                 int features = random.nextInt() & mask;
                 boolean good = ruled(features, rule) ^ random.nextInt(noise) == 0;
-                due(where + "add " + features + " " + good, tree.add(features, good), add(samples, features, good));
+                due(where, "add", "(" + features + ", " + good + ")", tree.add(features, good), add(samples, features, good));
             } else {
                 ask(where, tree, samples, random);
             }
         }
+    }
+
+    private static int orFar(Random random, int value) {
+        return random.nextInt(12) == 0 ? FAR[random.nextInt(FAR.length)] : value;
     }
 
     /** A rule over three features that rule picks, so that good trees exist to be found. */
@@ -71,24 +93,41 @@ public final class ReferenceTest {
     }
 
     private static void ask(String where, BestTree tree, List<Sample> samples, Random random) {
-        int depth = random.nextInt(6) - 1;
-        int price = random.nextInt(3) == 0 ? random.nextInt(26) - 3 : random.nextInt(5);
-        int feature = random.nextInt(8) - 1;
-        String with = where + "depth " + depth + ", price " + price + ", feature " + feature + ", ";
+        int depth = orFar(random, random.nextInt(6) - 1);
+        int price = orFar(random, random.nextInt(3) == 0 ? random.nextInt(26) - 3 : random.nextInt(5));
+        int feature = orFar(random, random.nextInt(8) - 1);
+        String priced = "(" + depth + ", " + price + ")";
         switch (random.nextInt(6)) {
-            case 0: due(with + "mistakes", tree.mistakes(depth), mistakes(samples, depth)); break;
-            case 1: due(with + "price", tree.price(depth, price), price(samples, depth, price)); break;
-            case 2: due(with + "question", tree.question(depth, price), question(samples, depth, price)); break;
-            case 3: due(with + "leaves", tree.leaves(depth), leaves(samples, depth)); break;
-            case 4: due(with + "mistakesBy", tree.mistakesBy(depth, feature), mistakesBy(samples, depth, feature)); break;
-            default: due(with + "doubtful", tree.doubtful(), doubtful(samples)); break;
+            case 0:
+                due(where, "mistakes", "(" + depth + ")", tree.mistakes(depth), mistakes(samples, depth));
+                break;
+            case 1:
+                due(where, "price", priced, tree.price(depth, price), price(samples, depth, price));
+                break;
+            case 2:
+                due(where, "question", priced, tree.question(depth, price), question(samples, depth, price));
+                break;
+            case 3:
+                due(where, "leaves", "(" + depth + ")", tree.leaves(depth), leaves(samples, depth));
+                break;
+            case 4:
+                due(where, "mistakesBy", "(" + depth + ", " + feature + ")", tree.mistakesBy(depth, feature),
+                        mistakesBy(samples, depth, feature));
+                break;
+            default:
+                due(where, "doubtful", "()", tree.doubtful(), doubtful(samples));
+                break;
         }
     }
 
-    private static void due(String what, int got, int want) {
+    private static void due(String where, String method, String arguments, int got, int want) {
+        SEEN.add(want == -1 ? method + " refused" : method);
+        if (method.equals("drop") && want == 0) {
+            SEEN.add("drop of the last one");
+        }
         if (got != want) {
             wrong++;
-            System.out.println(what + " answered " + got + ", due is " + want);
+            System.out.println(where + method + arguments + " answered " + got + ", due is " + want);
         }
     }
 
@@ -210,7 +249,7 @@ public final class ReferenceTest {
 
     private static int[] nothing(int depth) {
         int[] table = new int[(1 << depth) + 1];
-        java.util.Arrays.fill(table, NONE);
+        Arrays.fill(table, NONE);
         return table;
     }
 }
