@@ -252,7 +252,8 @@ public final class LanguageTest {
             due(flags.contains(Modifier.PRIVATE), 1, field, name + " is not private");
             if (flags.contains(Modifier.STATIC)) {
                 Integer value = constant(field.getInitializer());
-                due(flags.contains(Modifier.FINAL) && isIntOrLong(field.getType()) && value != null, 5, field, name + " is no constant");
+                boolean fixed = flags.contains(Modifier.FINAL) && isIntOrLong(field.getType()) && value != null;
+                due(fixed, 5, field, name + " is no constant");
                 if (value != null) {
                     constants.put(name, value);
                 }
@@ -316,7 +317,8 @@ public final class LanguageTest {
         private void checkMethod(MethodTree tree) {
             Set<Modifier> flags = tree.getModifiers().getFlags();
             String name = tree.getName().toString();
-            due(flags.contains(Modifier.PRIVATE) || flags.equals(Set.of(Modifier.PUBLIC)), 1, tree, name + " is seen from outside");
+            boolean privateOrFace = flags.contains(Modifier.PRIVATE) || flags.equals(Set.of(Modifier.PUBLIC));
+            due(privateOrFace, 1, tree, name + " is neither private nor plainly public");
             due(!flags.contains(Modifier.SYNCHRONIZED) && !flags.contains(Modifier.NATIVE), 6, tree, name + " is " + flags);
             due(tree.getThrows().isEmpty(), 6, tree, name + " throws");
             due(tree.getParameters().size() <= MOST_PARAMETERS, 10, tree, name + " takes too many parameters");
@@ -357,7 +359,8 @@ public final class LanguageTest {
         @Override
         public Void visitVariable(VariableTree tree, Void nothing) {
             Tree type = tree.getType();
-            due(type instanceof PrimitiveTypeTree || type instanceof ArrayTypeTree, 2, tree, "a type that is no number: " + tree);
+            boolean plain = type instanceof PrimitiveTypeTree || type instanceof ArrayTypeTree;
+            due(plain, 2, tree, "a type that is no number: " + tree);
             return super.visitVariable(tree, nothing);
         }
 

@@ -71,7 +71,8 @@ public final class LongRunTest {
             } else if (kind < 50) {
                 int features = random.nextInt() & mask;
                 boolean good = ruled(features, rule) ^ random.nextInt(noise) == 0;
-                due(where, "add", "(" + features + ", " + good + ")", tree.add(features, good), add(samples, features, good));
+                due(where, "add", "(" + features + ", " + good + ")", tree.add(features, good),
+                        add(samples, features, good));
             } else {
                 ask(where, tree, samples, random);
             }
